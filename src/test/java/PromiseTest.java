@@ -258,14 +258,17 @@ public final class PromiseTest {
                 meaning("REACH " + a, 3, r(3, e, f), n, true, REACH, a);
             }
         }
-        int path = r(3, 2, 0) | r(3, 0, 1);
-        meaning("REACH in two steps", 3, path, list(2, 1, 0), true, REACH, V01);
-        meaning("REACH against the arrows", 3, path, list(1, 2, 0), false, REACH, V01);
-        path = r(3, 0, 2) | r(3, 2, 1);
-        meaning("REACH in two steps", 3, path, list(0, 1, 0), true, REACH, V01);
-        path = r(3, 0, 1) | r(3, 1, 2);
-        meaning("REACH in two steps", 3, path, list(0, 2, 0), true, REACH, V01);
-        meaning("REACH back", 3, path, list(0, 2, 0), false, REACH, V10);
+        for (int e = 0; e < 3; e++) {
+            for (int step = 1; step <= 2; step++) {
+                int via = (e + step) % 3;
+                int f = (e + 2 * step) % 3;
+                int path = r(3, e, via) | r(3, via, f);
+                meaning("REACH in two steps", 3, path, list(e, f, 0), true, REACH, V01);
+                meaning("REACH in two steps, V10", 3, path, list(f, e, 0), true, REACH, V10);
+                meaning("REACH against the arrows", 3, path, list(f, e, 0), false, REACH, V01);
+                meaning("PAIR in two steps", 3, path, list(e, f, 0), false, PAIR, V01);
+            }
+        }
         for (int f = 0; f < 2; f++) {
             for (int g = 0; g < 2; g++) {
                 // Variable 0 has the element 0, variable 1 the element 1.
@@ -309,7 +312,32 @@ public final class PromiseTest {
         int round = r(3, 0, 1) | r(3, 1, 2) | r(3, 2, 0);
         meaning("one for all", 3, round, 0, false, PAIR, V01, ALL, 0, SOME, 1);
         meaning("for each one", 3, round, 0, true, PAIR, V01, SOME, 1, ALL, 0);
+        quantifiersOverPairs();
         meaning("the other order of F and G", 2, p(0), list(0, 1, 0), true, HAS, 1, HAS, 0, IMPLIES, 0);
+    }
+
+    /** A quantifier for v over PAIR of v and w, for all that w can have. */
+    private static void quantifiersOverPairs() {
+        for (int a = 0; a < 9; a++) {
+            int v = a / 3;
+            int w = a % 3;
+            for (int n = 0; n < 27; n++) {
+                int[] at = {n % 3, n / 3 % 3, n / 9};
+                int one = r(3, (at[w] + 1) % 3, at[w]);
+                int two = one | r(3, (at[w] + 2) % 3, at[w]);
+                int three = two | r(3, at[w], at[w]);
+                if (v != w) {
+                    meaning("SOME " + v + " of PAIR " + a + ", 0", 3, 4095 - 7 - three, n, false, PAIR, a, SOME, v);
+                    meaning("SOME " + v + " of PAIR " + a + ", 1", 3, one, n, true, PAIR, a, SOME, v);
+                    meaning("MANY " + v + " of PAIR " + a + ", 1", 3, one, n, false, PAIR, a, MANY, v);
+                    meaning("MANY " + v + " of PAIR " + a + ", 2", 3, two, n, true, PAIR, a, MANY, v);
+                    meaning("ALL " + v + " of PAIR " + a + ", 2", 3, two, n, false, PAIR, a, ALL, v);
+                    meaning("ALL " + v + " of PAIR " + a + ", 3", 3, three, n, true, PAIR, a, ALL, v);
+                    meaning("MANY " + (v + 3) + " of PAIR " + a + ", 3", 3, three, n, true, PAIR, a, MANY, v + 3);
+                    meaning("MANY " + (v + 3) + " of PAIR " + a + ", 2", 3, two, n, false, PAIR, a, MANY, v + 3);
+                }
+            }
+        }
     }
 
     private static void drop() {
@@ -601,6 +629,18 @@ public final class PromiseTest {
         due("forced(1) without a model", x.forced(1), 3);
         due("forced(2) without a model", x.forced(2), -1);
         due("forced(-1) without a model", x.forced(-1), -1);
+        TinyModels ends = new TinyModels();
+        putAxiom(ends, HAS, 0, HAS, 1, IFF, 0);
+        putAxiom(ends, HAS, 0, PAIR, 8, IFF, 0);
+        putAxiom(ends, HAS, 0, PAIR, V12, IFF, 0);
+        due("models(), the first and the last", ends.models(), 2);
+        due("forced(0), the first and the last", ends.forced(0), 2);
+        due("forced(5), the first and the last", ends.forced(5), 2);
+        putAxiom(ends, HAS, 0);
+        due("forced(0), the last alone", ends.forced(0), 1);
+        ends.retract(3);
+        putAxiom(ends, HAS, 0, NOT, 0);
+        due("forced(0), the first alone", ends.forced(0), 0);
     }
 
     private static void holds() {
@@ -686,6 +726,11 @@ public final class PromiseTest {
         putAxiom(open, HAS, 0, SOME, 0);
         put(open, HAS, 0);
         due("follows() of what holds for some lists alone", open.follows(), 0);
+        TinyModels ends = new TinyModels();
+        put(ends, HAS, 0, SOME, 0, PAIR, V01, SOME, 0, SOME, 1, OR, 0);
+        due("follows(), but for the first", ends.follows(), 0);
+        put(ends, HAS, 0, PAIR, V12, AND, 0, ALL, 0, ALL, 1, ALL, 2, NOT, 0);
+        due("follows(), but for the last", ends.follows(), 0);
     }
 
     private static void agreeing() {
@@ -707,6 +752,11 @@ public final class PromiseTest {
         due("models()", x.models(), 1);
         putAxiom(x, HAS, 0);
         due("agreeing() without a model", x.agreeing(), 0);
+        TinyModels ends = new TinyModels();
+        put(ends, HAS, 0, NOT, 0, PAIR, V12, NOT, 0, AND, 0);
+        due("agreeing(), the first alone", ends.agreeing(), 1);
+        put(ends, HAS, 0, PAIR, V12, AND, 0);
+        due("agreeing(), the last alone", ends.agreeing(), 1);
     }
 
     private static void alike() {
@@ -736,6 +786,11 @@ public final class PromiseTest {
         due("alike() without a model", x.alike(), 1);
         due("drop()", x.drop(), 1);
         due("alike() on one formula without a model", x.alike(), -1);
+        TinyModels ends = new TinyModels();
+        put(ends, SAME, V00, HAS, 0, SOME, 0, PAIR, V01, SOME, 0, SOME, 1, OR, 0);
+        due("alike(), but for the first", ends.alike(), 0);
+        put(ends, SAME, V00, NOT, 0, HAS, 0, PAIR, V12, AND, 0, ALL, 0, ALL, 1, ALL, 2);
+        due("alike(), but for the last", ends.alike(), 0);
     }
 
     private static void independent() {
@@ -766,6 +821,12 @@ public final class PromiseTest {
         putAxiom(size, HAS, 0, HAS, 1, IMPLIES, 0);
         due("independent(1) of what follows", size.independent(1), 0);
         due("independent(0)", size.independent(0), 1);
+
+        TinyModels ends = new TinyModels();
+        putAxiom(ends, HAS, 0, SOME, 0, PAIR, V01, SOME, 0, SOME, 1, OR, 0);
+        due("independent(0), through the first alone", ends.independent(0), 1);
+        putAxiom(ends, HAS, 0, PAIR, V12, AND, 0, ALL, 0, ALL, 1, ALL, 2, NOT, 0);
+        due("independent(1), through the last alone", ends.independent(1), 1);
     }
 
     private static void smallest() {
@@ -791,6 +852,12 @@ public final class PromiseTest {
         putAxiom(three, SAME, V00, MANY, 3);
         due("smallest(), at least three", three.smallest(), 3);
         due("isModel(64) after it", three.isModel(64), -1);
+        TinyModels first = new TinyModels();
+        putAxiom(first, HAS, 0, PAIR, V12, OR, 0, NOT, 0);
+        due("smallest(), the first alone", first.smallest(), 1);
+        TinyModels last = new TinyModels();
+        putAxiom(last, HAS, 0, PAIR, V12, AND, 0);
+        due("smallest(), the last alone", last.smallest(), 1);
     }
 
     private static void changeNothing() {
