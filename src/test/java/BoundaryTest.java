@@ -69,8 +69,11 @@ public final class BoundaryTest {
     private static final class Run {
         private final TinyModels object = new TinyModels();
         private final List<Call> calls = new ArrayList<>();
+        // What was seen before the first of the last calls that had to change nothing.
+        private List<String> before = null;
 
         private int answer(Call call) {
+            before = null;
             calls.add(call);
             if (calls.size() > MOST_CALLS) {
                 throw new IllegalStateException("the test itself makes more than 512 calls");
@@ -83,6 +86,7 @@ public final class BoundaryTest {
             for (Call call : calls) {
                 twin.answer(call);
             }
+            twin.before = before;
             return twin;
         }
 
@@ -102,21 +106,19 @@ public final class BoundaryTest {
 
         /** A call that has to answer 'want' and to change nothing. */
         Run unchanged(int want, String name, int... a) {
+            List<String> without = before == null ? seen() : before;
             Call call = new Call(name, a);
-            Run with = twin();
-            with.check(want, call);
-            with.check(want, call);
-            List<String> without = twin().seen();
-            List<String> after = with.seen();
-            for (int i = 0; i < without.size() || i < after.size(); i++) {
+            check(want, call);
+            List<String> with = seen();
+            for (int i = 0; i < without.size() || i < with.size(); i++) {
                 String one = i < without.size() ? without.get(i) : "nothing";
-                String other = i < after.size() ? after.get(i) : "nothing";
+                String other = i < with.size() ? with.get(i) : "nothing";
                 if (!one.equals(other)) {
                     tell("after " + call + ": " + other + ", without it: " + one);
                     break;
                 }
             }
-            check(want, call);
+            before = without;
             return this;
         }
 
@@ -165,9 +167,17 @@ public final class BoundaryTest {
             return got;
         }
 
-        /** What can be told of the state by calls: it is taken apart by that. */
-        private List<String> seen() {
+        /** All that calls on this object would answer now, as far as it tells the state. */
+        List<String> seen() {
             List<String> seen = new ArrayList<>();
+            // On two twins, as a call that wrongly changes something would
+            // hide in the second what it had done before.
+            twin().takeApart(seen);
+            twin().ask(seen);
+            return seen;
+        }
+
+        private void ask(List<String> seen) {
             for (String name : List.of("models", "shapes", "follows", "agreeing", "alike", "smallest")) {
                 see(seen, name);
             }
@@ -181,6 +191,9 @@ public final class BoundaryTest {
                 see(seen, "forced", 2 * i);
                 see(seen, "independent", i);
             }
+        }
+
+        private void takeApart(List<String> seen) {
             see(seen, "domain", 3);
             for (int n = 0; n < 7; n++) {
                 seeTop(seen);
@@ -195,7 +208,6 @@ public final class BoundaryTest {
             see(seen, "token", HAS, 0);
             see(seen, "axiom");
             see(seen, "models");
-            return seen;
         }
 
         private void seeTop(List<String> seen) {
@@ -224,7 +236,7 @@ public final class BoundaryTest {
         return withDomain(d)
             .putAxiom(PAIR, 1, PAIR, 3, IMPLIES, 0)
             .putAxiom(PAIR, 0, NOT, 0, SOME, 0)
-            .put(HAS, 0)
+            .put(PAIR, 7, NOT, 0)
             .put(REACH, 1, SAME, 5, OR, 0)
             .put(HAS, 2, NOT, 0, ALL, 2);
     }
@@ -241,7 +253,7 @@ public final class BoundaryTest {
     }
 
     private static Run withSixFormulas(Run x) {
-        return x.put(HAS, 0).put(PAIR, 1).put(HAS, 1, NOT, 0).put(REACH, 7, SOME, 2).put(SAME, 5).put(PAIR, 4, NOT, 0);
+        return x.put(PAIR, 5, NOT, 0).put(PAIR, 1).put(HAS, 1, NOT, 0).put(REACH, 7, SOME, 2).put(SAME, 5).put(PAIR, 4, NOT, 0);
     }
 
     private static Run full(int d) {
@@ -411,6 +423,25 @@ public final class BoundaryTest {
             for (int m : new int[] {-1, counts[d]}) {
                 x.due(-1, "isModel", m).due(-1, "symmetries", m).due(-1, "holds", m, 0).due(-1, "lists", m);
                 x.due(-1, "sameShape", m, 0).due(-1, "sameShape", 0, m);
+            }
+        }
+    }
+
+    private static void variablesOfPairs() {
+        sentence = "v = a / 3 (rounded down), w = the rest of a on division by 3";
+        for (int a = 0; a < 9; a++) {
+            Run pair = withDomain(3).put(PAIR, a);
+            Run same = withDomain(3).put(SAME, a);
+            Run reach = withDomain(3).put(REACH, a);
+            for (int list = 0; list < 27; list++) {
+                int[] at = {list % 3, list / 3 % 3, list / 9};
+                int e = at[a / 3];
+                int f = at[a % 3];
+                int alone = r(3, e, f);
+                int other = e == f ? 0 : r(3, f, e);
+                pair.due(1, "holds", alone, list).due(0, "holds", 4095 - alone, list).due(0, "holds", other, list);
+                same.due(e == f ? 1 : 0, "holds", alone, list);
+                reach.due(1, "holds", alone, list).due(e == f ? 1 : 0, "holds", other, list);
             }
         }
     }
@@ -628,6 +659,60 @@ public final class BoundaryTest {
                 .refused(-2, "token", IFF, 0).refused(-1, "holds", 0, 0).refused(-1, "lists", 0).refused(-1, "follows")
                 .refused(-1, "agreeing").refused(-1, "alike");
             busy(d).putLong(24, 1).refused(-4, "token", NOT, 0).refused(-4, "token", AND, 0).refused(-4, "token", SOME, 0);
+        }
+    }
+
+    /** Calls of every kind, with arguments at the ends of what is allowed and next to them. */
+    private static List<Call> everyCall(int d) {
+        List<Call> result = new ArrayList<>();
+        for (String name : List.of("drop", "axiom", "models", "shapes", "follows", "agreeing", "alike", "smallest")) {
+            result.add(new Call(name));
+        }
+        int last = last(d);
+        for (int n : new int[] {LEAST, -1, 0, 5, 6, d + d * d - 1, d + d * d, last, last + 1, MOST}) {
+            for (String name : List.of("domain", "retract", "next", "isModel", "symmetries", "forced", "lists", "independent")) {
+                result.add(new Call(name, n));
+            }
+            result.add(new Call("sameShape", n, 0));
+            result.add(new Call("sameShape", 0, n));
+            result.add(new Call("holds", n, 0));
+        }
+        for (int list : new int[] {-1, 0, 1, 2, 3, 6, 9, 13, 18, 26, 27}) {
+            result.add(new Call("holds", 0, list));
+        }
+        for (int kind = -1; kind <= 12; kind++) {
+            for (int a : new int[] {-1, 0, 2, 3, 5, 6, 8, 9}) {
+                result.add(new Call("token", kind, a));
+            }
+        }
+        return result;
+    }
+
+    private static boolean isQuestion(Call call) {
+        return !List.of("domain", "token", "drop", "axiom", "retract").contains(call.name());
+    }
+
+    private static void sweep(Run x, int d) {
+        x.before = x.seen();
+        for (Call call : everyCall(d)) {
+            // Whether it is refused, and with what answer, is tested elsewhere.
+            int answer = x.twin().answer(call);
+            if (answer < 0 || isQuestion(call)) {
+                x.twin().unchanged(answer, call.name(), call.a());
+            }
+        }
+    }
+
+    private static void everyRefusedCall() {
+        sentence = "A refused call changes nothing. The calls below change nothing.";
+        for (int d = 1; d <= 3; d++) {
+            sweep(withDomain(d), d);
+            sweep(busy(d), d);
+            sweep(full(d), d);
+            sweep(withSixAxioms(d), d);
+            sweep(withSixFormulas(withDomain(d)), d);
+            sweep(withSixAxioms(d).putLong(23, 1).putLong(24, 2), d);
+            sweep(withDomain(d).putAxiom(SAME, 0, NOT, 0).putLong(24, 1), d);
         }
     }
 
@@ -1009,7 +1094,7 @@ public final class BoundaryTest {
                 }
             }
             x.due(5, "retract", away);
-            if (!x.twin().seen().equals(without.twin().seen())) {
+            if (!x.seen().equals(without.seen())) {
                 tell("axiom " + away + " of six");
             }
             x.refused(-1, "independent", 5).refused(-1, "retract", 5).put(HAS, 0).due(6, "axiom");
@@ -1417,6 +1502,7 @@ public final class BoundaryTest {
         callsBeyond512();
         digitsOfNumbers();
         numbersOfInterpretations();
+        variablesOfPairs();
         sameElementReached();
         bothOrNeither();
         everyElement();
@@ -1427,6 +1513,7 @@ public final class BoundaryTest {
         allAxiomsAreValid();
         mapsOntoThemselves();
         refusedChangesNothing();
+        everyRefusedCall();
         orderOfTests();
         numbersOfLists();
         askingChangesNothing();
